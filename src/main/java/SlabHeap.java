@@ -641,6 +641,7 @@ public final class SlabHeap {
             return n;
         }
 
+        /** An extent's one slot is never empty, so only slabs add to the sum. */
         int emptySlots() {
             int n = 0;
             for (int p = 0; p < PAGES; p++) {

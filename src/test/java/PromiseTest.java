@@ -445,6 +445,7 @@ public final class PromiseTest {
     x.refer(16, 0, 22);
     x.refer(22, 0, 16);
     x.refer(22, 1, 19);
+    x.put(64, 1, 16);
     x.put(64, 39, 16);
     x.fence();
     refused("a refusal", x.put(0, 0, 0), 2);
@@ -712,6 +713,27 @@ public final class PromiseTest {
     due("count(5)", x.count(5), 0);
   }
 
+  /** Seven ways round and round at the same block must not use up the room of the walk. */
+  private static void rounds() {
+    fresh(11);
+    int knot = x.alloc(7, 7);
+    for (int i = 0; i < 7; i++) {
+      x.refer(knot, i, knot);
+    }
+    x.root(0, knot);
+    int before = x.alloc(1, 1);
+    x.root(1, before);
+    for (int i = 0; i < 20; i++) {
+      int address = x.alloc(1, 1);
+      x.refer(before, 0, address);
+      before = address;
+    }
+    due("block(knot, 4)", x.block(knot, 4), 8);
+    due("collect()", x.collect(), 0);
+    due("crash(-1)", x.crash(-1), 22);
+    due("count(5)", x.count(5), 0);
+  }
+
   public static void main(String[] args) {
     newObject();
     allocNumbers();
@@ -740,6 +762,7 @@ public final class PromiseTest {
     waitsAndTrouble();
     fullHeap();
     chain();
+    rounds();
     System.out.println(wrong == 0 ? "all answers are as due" : wrong + " answers are not as due");
     if (wrong != 0) {
       System.exit(1);
