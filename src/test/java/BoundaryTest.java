@@ -1226,6 +1226,14 @@ public final class BoundaryTest {
     x.root(0, 0);
     due("what was found once", x.collect(), 2);
     fresh();
+    x.root(0, x.alloc(2047, 2047));
+    x.alloc(1, 1);
+    x.alloc(1, 0);
+    x.refer(2048, 2046, 16);
+    x.refer(16, 0, 18);
+    due("behind 2046 REFERENCES that are 0", x.collect(), 0);
+    due("and after a crash", x.crash(-1), 3);
+    fresh();
     int knot = x.alloc(7, 7);
     x.root(0, knot);
     for (int i = 0; i < 7; i++) x.refer(knot, i, knot);
@@ -1319,6 +1327,19 @@ public final class BoundaryTest {
     due("another's", x.block(16, 4), 24);
     x.free(32);
     due("a freed BLOCK's", x.block(16, 4), 23);
+    fresh();
+    x.alloc(1, 1);
+    x.alloc(1, 1);
+    x.refer(18, 0, 16);
+    x.root(0, 16);
+    blocks(16, 18);
+    due("only the one has a ROOT", x.crash(-1), 1);
+    due("the other's HEAD stands yet", x.word(18, false), headOf(18, 1, 1));
+    due("so does its REFERENCE", x.word(19, false), 16);
+    due("but it is not live", x.block(16, 4), 1);
+    x.root(0, 0);
+    due("nothing leads there", x.block(16, 4), 0);
+    got("it can be freed", x.free(16), 2);
 
     sentence("4 how many ROOTS and REFERENCES of live BLOCKS lead to it. NONE if there is none such");
     x.alloc(2, 1);
