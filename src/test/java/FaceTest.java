@@ -1,3 +1,5 @@
+import java.io.IOException;
+import java.lang.reflect.Array;
 import java.lang.reflect.Constructor;
 import java.lang.reflect.Field;
 import java.lang.reflect.Member;
@@ -16,30 +18,23 @@ import java.util.regex.Pattern;
 public final class FaceTest {
   private static int wrong = 0;
 
-  private static final Set<String> FACE = Set.of(
-      "public static final int NONE",
-      "public SlabHeap()",
-      "public int alloc(int,int)",
-      "public int free(int)",
-      "public boolean put(int,int,int)",
-      "public boolean refer(int,int,int)",
-      "public int get(int,int)",
-      "public boolean root(int,int)",
-      "public int rootOf(int)",
-      "public int fence()",
-      "public int crash(int)",
-      "public int collect()",
-      "public int word(int,boolean)",
-      "public boolean scribble(int,int)",
-      "public int block(int,int)",
-      "public int live(int)",
-      "public int page(int,int)",
-      "public int extents(int)",
-      "public int next(int)",
-      "public int count(int)",
-      "public int head(int,int,int)",
-      "public int waits(int)",
-      "public int trouble()");
+  /** Elements of all objects of one run that the room has, if each of 512 calls made a new object. */
+  private static final int MOST_ELEMENTS = 7_300_000 / 512;
+
+  /** The face as the document writes it out, without the names of the parameters. */
+  private static Set<String> documentFace() throws IOException {
+    String text = Files.readString(Path.of("..", "shared", "DOC.md"));
+    Matcher body = Pattern.compile("(?s)public final class SlabHeap \\{\n(.*?)\n\\}").matcher(text);
+    Set<String> face = new TreeSet<>();
+    if (!body.find()) {
+      return face;
+    }
+    for (String line : body.group(1).split("\n")) {
+      face.add(line.trim().replaceAll("(int|boolean) \\w+(?=[,)])", "$1")
+          .replace(", ", ",").replaceAll("( = -1)?;$", ""));
+    }
+    return face;
+  }
 
   private static void check(boolean holds, String what) {
     if (!holds) {
@@ -62,7 +57,7 @@ public final class FaceTest {
     }
   }
 
-  private static void checkFace() {
+  private static void checkFace(Set<String> face) {
     Set<String> members = new TreeSet<>();
     for (Field f : SlabHeap.class.getDeclaredFields()) {
       addUnlessPrivate(members, f, f.getType().getSimpleName() + " " + f.getName());
@@ -74,14 +69,15 @@ public final class FaceTest {
       addUnlessPrivate(members, m,
           m.getReturnType().getSimpleName() + " " + m.getName() + parameters(m.getParameterTypes()));
     }
-    check(members.equals(new TreeSet<>(FACE)), "the face is the document's, but is " + members);
+    check(face.size() == 23, "the document writes a constant, a constructor and 21 methods: " + face);
+    check(members.equals(face), "the face is the document's, but is " + members);
     int modifiers = SlabHeap.class.getModifiers();
     check(Modifier.isPublic(modifiers) && Modifier.isFinal(modifiers), "the class is public and final");
   }
 
-  private static void checkNames() {
+  private static void checkNames(Set<String> face) {
     Set<String> open = new TreeSet<>();
-    for (String member : FACE) {
+    for (String member : face) {
       Matcher m = Pattern.compile("(\\w+)\\(").matcher(member);
       if (m.find()) {
         open.add(m.group(1));
@@ -125,10 +121,55 @@ public final class FaceTest {
     }
   }
 
+  /** Rows and fields of an object and of the objects that it holds. */
+  private static int elementsOf(Object object) throws IllegalAccessException {
+    if (object.getClass().isArray()) {
+      return Array.getLength(object);
+    }
+    int n = 0;
+    for (Field f : object.getClass().getDeclaredFields()) {
+      if (!Modifier.isStatic(f.getModifiers())) {
+        f.setAccessible(true);
+        n += 1 + (f.getType().isPrimitive() ? 0 : elementsOf(f.get(object)));
+      }
+    }
+    return n;
+  }
+
+  private static Set<String> finalFields() {
+    Set<String> names = new TreeSet<>();
+    List<Class<?>> classes = new ArrayList<>(List.of(SlabHeap.class.getDeclaredClasses()));
+    classes.add(SlabHeap.class);
+    for (Class<?> c : classes) {
+      for (Field f : c.getDeclaredFields()) {
+        if (Modifier.isFinal(f.getModifiers())) {
+          names.add(f.getName());
+        }
+      }
+    }
+    return names;
+  }
+
+  /** All calls live in one room: what is made goes into final fields, which only a constructor can fill. */
+  private static void checkRoom() throws Exception {
+    int elements = elementsOf(new SlabHeap());
+    check(elements <= MOST_ELEMENTS, "an object has " + elements + " elements, at most " + MOST_ELEMENTS);
+    Set<String> fields = finalFields();
+    Pattern made = Pattern.compile("\\s+(?:private final \\S+ )?(\\w+) = new [^;]*;");
+    for (String line : Files.readAllLines(Path.of("src/main/java/SlabHeap.java"))) {
+      if (line.matches(".*\\bnew \\w+[(\\[].*")) {
+        Matcher m = made.matcher(line);
+        check(m.matches() && fields.contains(m.group(1)), "made for a final field: " + line.trim());
+      }
+    }
+  }
+
   public static void main(String[] args) throws Exception {
-    checkFace();
-    checkNames();
+    Set<String> face = documentFace();
+    checkFace(face);
+    checkNames(face);
     checkWords();
+    checkRoom();
     check(SlabHeap.NONE == -1, "NONE is -1");
     System.out.println(wrong == 0 ? "the face is as due" : wrong + " things are not so");
     if (wrong != 0) {
